@@ -16,6 +16,10 @@ public final class AgainstSlowPlansTest {
     /** How wild the numbers are: small ones, ones like real lots, or the greatest there are. */
     private final int kind;
     private final int[] outcomes;
+    /** Most rules are told round a mix, cut in thirds, so that they can often be kept together. */
+    private final double[] aim = new double[4];
+    private final int[][] amounts = new int[4][5];
+    private final int[] stocks = new int[4];
 
     private AgainstSlowPlansTest(long seed, int[] outcomes) {
         this.seed = seed;
@@ -36,13 +40,26 @@ public final class AgainstSlowPlansTest {
     }
 
     private void go() {
-        int lots = kind == 0 ? random.nextInt(5) : 4;
-        for (int lot = 0; lot < lots; lot++) {
+        int atFirst = kind == 0 ? random.nextInt(5) : 4;
+        for (int lot = 0; lot < atFirst; lot++) {
             addLot();
             for (int what = 0; what < 5; what++) if (random.nextInt(5) > 0) tellAmount(lot, what);
         }
-        for (int call = 0; call < CALLS && wrong < 5; call++) step();
+        for (int call = 0; call < CALLS && wrong < 5; call++) {
+            if (call % 40 == 0) takeAim();
+            step();
+        }
         runAndAsk();
+    }
+
+    private void takeAim() {
+        for (int lot = 0; lot < 4; lot++) aim[lot] = random.nextInt(3 * stocks[lot] + 1) / 3.0;
+    }
+
+    private double aimed(int what) {
+        double sum = 0;
+        for (int lot = 0; lot < 4; lot++) sum += aim[lot] * (what < 0 ? 1 : amounts[lot][what]);
+        return sum;
     }
 
     private void step() {
@@ -61,7 +78,9 @@ public final class AgainstSlowPlansTest {
     private void addLot() {
         int stock = random.nextInt(8) == 0 ? random.nextInt(13) - 1 : kind > 2 ? 9 - random.nextInt(2) : random.nextInt(10);
         long cents = kind == 1 ? random.nextInt(7) - 3 : kind > 2 ? near(1000) : random.nextInt(2003) - 1001;
-        same("lot(" + stock + ", " + cents + ")", plans.lot(stock, cents), slow.lot(stock, cents));
+        int number = slow.lot(stock, cents);
+        same("lot(" + stock + ", " + cents + ")", plans.lot(stock, cents), number);
+        if (number >= 0) stocks[number] = stock;
     }
 
     private int near(int most) {
@@ -75,7 +94,9 @@ public final class AgainstSlowPlansTest {
         else if (kind == 1) v = random.nextInt(7) - 2;
         else if (kind == 2) v = random.nextInt(40);
         else v = random.nextInt(6) == 0 ? random.nextInt(201) - 100 : near(100);
-        same("amount(" + lot + ", " + what + ", " + v + ")", plans.amount(lot, what, v) ? 1 : 0, slow.amount(lot, what, v) ? 1 : 0);
+        boolean taken = slow.amount(lot, what, v);
+        same("amount(" + lot + ", " + what + ", " + v + ")", plans.amount(lot, what, v) ? 1 : 0, taken ? 1 : 0);
+        if (taken) amounts[lot][what] = v;
     }
 
     private void tellSpan() {
@@ -84,6 +105,10 @@ public final class AgainstSlowPlansTest {
         int low = random.nextInt(20) == 0 ? -100001 + random.nextInt(3) : random.nextInt(size) - (kind == 2 ? 0 : size / 2);
         int high = random.nextInt(20) == 0 ? 99999 + random.nextInt(3) : low - 1 + random.nextInt(size);
         if (random.nextInt(8) == 0) high = low;
+        if (what >= 0 && what < 5 && random.nextInt(5) > 0) {
+            low = (int) Math.floor(aimed(what)) - random.nextInt(1 + random.nextInt(size / 4));
+            high = (int) Math.ceil(aimed(what)) + random.nextInt(1 + random.nextInt(size / 4));
+        }
         same("span(" + what + ", " + low + ", " + high + ")", plans.span(what, low, high) ? 1 : 0, slow.span(what, low, high) ? 1 : 0);
     }
 
@@ -103,6 +128,11 @@ public final class AgainstSlowPlansTest {
             high = random.nextInt(8) == 0 ? low : low - 1 + random.nextInt(kind == 1 ? 6 : 70);
             over = random.nextInt(kind == 1 ? 5 : 60);
         }
+        if (aimed(second) > 0 && over > 0 && random.nextInt(5) > 0) {
+            double due = Math.min(100, Math.max(0, over * aimed(first) / aimed(second)));
+            low = Math.max(0, (int) Math.floor(due) - random.nextInt(5));
+            high = Math.min(100, (int) Math.ceil(due) + random.nextInt(5));
+        }
         same("ratio(" + k + ", " + first + ", " + second + ", " + low + ", " + high + ", " + over + ")",
             plans.ratio(k, first, second, low, high, over) ? 1 : 0, slow.ratio(k, first, second, low, high, over) ? 1 : 0);
     }
@@ -110,6 +140,10 @@ public final class AgainstSlowPlansTest {
     private void tellLoads() {
         int low = random.nextInt(20) - 1;
         int high = low - 1 + random.nextInt(20);
+        if (random.nextInt(3) > 0) {
+            low = (int) Math.floor(aimed(-1)) - random.nextInt(3);
+            high = (int) Math.ceil(aimed(-1)) + random.nextInt(3);
+        }
         same("loads(" + low + ", " + high + ")", plans.loads(low, high) ? 1 : 0, slow.loads(low, high) ? 1 : 0);
     }
 
