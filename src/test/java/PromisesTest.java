@@ -5,80 +5,30 @@ import java.util.List;
 import java.util.TreeSet;
 
 /** Each promise of the document: ordinary inputs, the edges that it names, and wrong inputs. */
-public final class PromisesTest {
-    private static final int NONE = RecipePlans.NONE;
-    private static final long NOTHING = Long.MIN_VALUE;
+public final class PromisesTest extends Checks {
     private static final int[] WILD = {Integer.MIN_VALUE, -100002, -101, -1, 0, 1, 4, 5, 8, 10, 101, 100002, Integer.MAX_VALUE};
-    private static int wrong = 0;
 
     public static void main(String[] args) {
-        face();
-        aNewObject();
-        lot();
-        amount();
-        span();
-        ratio();
-        loads();
-        untell();
-        run();
-        best();
-        cost();
-        cut();
-        cutOfGreatNumbers();
-        clashes();
-        clash();
-        broken();
-        foundStays();
-        wildInputs();
-        fullLife();
-        System.out.println(wrong == 0 ? "all promises are kept" : wrong + " answers are not as due");
-        if (wrong != 0) System.exit(1);
-    }
-
-    private static void due(String what, long got, long want) {
-        if (got == want) return;
-        wrong++;
-        System.out.println(what + " is " + got + ", due is " + want);
-    }
-
-    private static void due(String what, boolean got, boolean want) {
-        due(what, got ? 1 : 0, want ? 1 : 0);
-    }
-
-    private static void dueNothingFound(String when, RecipePlans plans) {
-        for (int lot = -1; lot <= 4; lot++) due(when + ": best", plans.best(lot), NONE);
-        due(when + ": cost", plans.cost(), NOTHING);
-        for (int part = -1; part <= 2; part++) due(when + ": cut", plans.cut(part), NOTHING);
-    }
-
-    private static void dueClash(String when, RecipePlans plans, int... rules) {
-        due(when + ": clashes", plans.clashes(), rules.length == 0 ? NONE : rules.length);
-        for (int rule = -1; rule <= 8; rule++) {
-            boolean member = false;
-            for (int r : rules) member |= r == rule;
-            due(when + ": clash(" + rule + ")", plans.clash(rule), member);
-        }
-    }
-
-    private static void dueCut(String when, RecipePlans plans, long above, long below) {
-        due(when + ": cut(0)", plans.cut(0), above);
-        due(when + ": cut(1)", plans.cut(1), below);
-    }
-
-    private static void dueMix(String when, RecipePlans plans, int... loads) {
-        for (int lot = 0; lot < loads.length; lot++) due(when + ": best(" + lot + ")", plans.best(lot), loads[lot]);
-        due(when + ": best of no lot", plans.best(loads.length), NONE);
-    }
-
-    /** Lots with stock 9 and these cents. */
-    private static RecipePlans withLots(long... cents) {
-        RecipePlans plans = new RecipePlans();
-        for (long c : cents) plans.lot(9, c);
-        return plans;
-    }
-
-    private static void amounts(RecipePlans plans, int what, int... amounts) {
-        for (int lot = 0; lot < amounts.length; lot++) due("amount", plans.amount(lot, what, amounts[lot]), true);
+        test("the public face", PromisesTest::face);
+        test("1: a new object", PromisesTest::aNewObject);
+        test("2: lot", PromisesTest::lot);
+        test("3: amount", PromisesTest::amount);
+        test("4: span", PromisesTest::span);
+        test("5: ratio", PromisesTest::ratio);
+        test("6: loads", PromisesTest::loads);
+        test("7: untell", PromisesTest::untell);
+        test("8: run", PromisesTest::run);
+        test("9: best", PromisesTest::best);
+        test("10: cost", PromisesTest::cost);
+        test("11: cut", PromisesTest::cut);
+        test("11: cut, great numbers", PromisesTest::cutOfGreatNumbers);
+        test("12: clashes", PromisesTest::clashes);
+        test("13: clash", PromisesTest::clash);
+        test("14: broken", PromisesTest::broken);
+        test("what run() found stays", PromisesTest::foundStays);
+        test("wild inputs", PromisesTest::wildInputs);
+        test("a full life", PromisesTest::fullLife);
+        end();
     }
 
     private static void face() {
@@ -100,10 +50,7 @@ public final class PromisesTest {
             "public int " + p + "run()", "public int " + p + "best(int)", "public long " + p + "cost()",
             "public long " + p + "cut(int)", "public int " + p + "clashes()", "public boolean " + p + "clash(int)",
             "public int " + p + "broken(int,int,int,int)"));
-        if (!seen.equals(wanted)) {
-            wrong++;
-            System.out.println("the face is " + seen);
-        }
+        if (!seen.equals(wanted)) fail("the face is " + seen);
         due("the class is public and final", Modifier.isFinal(c.getModifiers()) && Modifier.isPublic(c.getModifiers()), true);
         due("NONE", NONE, -1);
     }
@@ -518,28 +465,33 @@ public final class PromisesTest {
 
     /** No call may throw, whatever it is given; and what is refused changes nothing. */
     private static void wildInputs() {
-        RecipePlans plans = withLots(1, 2, 3);
-        plans.loads(4, 4);
-        plans.run();
         for (int a : WILD) {
-            plans.best(a);
-            plans.cut(a);
-            plans.clash(a);
             for (int b : WILD) {
-                if (a < 0 || a > 9) due("wild lot", plans.lot(a, b), NONE);
-                if (a < 0 || a > 36 || b < a || b > 36) due("wild loads", plans.loads(a, b), false);
-                for (int c : WILD) {
-                    plans.broken(a, b, c, 0);
-                    plans.broken(0, a, b, c);
-                    if (a < 0 || a > 2 || b < 0 || b > 4 || c < -100 || c > 100) due("wild amount", plans.amount(a, b, c), false);
-                    if (a < 0 || a > 4 || b < -100000 || c > 100000 || b > c) due("wild span", plans.span(a, b, c), false);
-                    if (a < 0 || a > 1) due("wild ratio", plans.ratio(a, b, c, 0, 1, 1), false);
-                    if (b < 0 || c > 100 || b > c || a < 1 || a > 100) due("wild ratio", plans.ratio(0, 0, 0, b, c, a), false);
-                }
+                // a new one each time, as an object is used for 512 calls at most
+                RecipePlans plans = withLots(1, 2, 3);
+                plans.loads(4, 4);
+                plans.run();
+                wildInputs(plans, a, b);
+                due("run", plans.run(), 0);
+                dueMix("as before", plans, 4, 0, 0);
             }
         }
-        due("run", plans.run(), 0);
-        dueMix("as before", plans, 4, 0, 0);
+    }
+
+    private static void wildInputs(RecipePlans plans, int a, int b) {
+        plans.best(a);
+        plans.cut(a);
+        plans.clash(a);
+        if (a < 0 || a > 9) due("wild lot", plans.lot(a, b), NONE);
+        if (a < 0 || a > 36 || b < a || b > 36) due("wild loads", plans.loads(a, b), false);
+        for (int c : WILD) {
+            plans.broken(a, b, c, 0);
+            plans.broken(0, a, b, c);
+            if (a < 0 || a > 2 || b < 0 || b > 4 || c < -100 || c > 100) due("wild amount", plans.amount(a, b, c), false);
+            if (a < 0 || a > 4 || b < -100000 || c > 100000 || b > c) due("wild span", plans.span(a, b, c), false);
+            if (a < 0 || a > 1) due("wild ratio", plans.ratio(a, b, c, 0, 1, 1), false);
+            if (b < 0 || c > 100 || b > c || a < 1 || a > 100) due("wild ratio", plans.ratio(0, 0, 0, b, c, a), false);
+        }
     }
 
     /** An object holds out its 512 calls, most of them runs of the greatest size. */
